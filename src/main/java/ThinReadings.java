@@ -69,7 +69,7 @@ public final class ThinReadings {
         history.wipe();
         images.wipe();
         seen.wipe();
-        thinning.outdate();
+        outdateAll();
         return items;
     }
 
@@ -121,7 +121,7 @@ public final class ThinReadings {
             return STATE;
         }
         history.pop(log);
-        thinning.outdate();
+        outdateAll();
         return history.size;
     }
 
@@ -145,6 +145,7 @@ public final class ThinReadings {
     // ---- lines, strips
 
     public int apart(int i, int j, int what) {
+        thinning.refresh();
         if (!isLine(i, j) || !isWithin(what, 0, 2)) {
             return BAD;
         }
@@ -157,6 +158,7 @@ public final class ThinReadings {
     }
 
     public int why(int i, int j) {
+        thinning.refresh();
         if (!isLine(i, j)) {
             return BAD;
         }
@@ -164,6 +166,7 @@ public final class ThinReadings {
     }
 
     public int strip(int i, int j, int what) {
+        thinning.refresh();
         boolean isOne = i == j && log.isKnown(i);
         if (!(isOne || isLine(i, j)) || !isWithin(what, 0, 1)) {
             return BAD;
@@ -207,6 +210,7 @@ public final class ThinReadings {
         if (!isWithin(what, 0, 2)) {
             return BAD;
         }
+        thinning.refresh();
         survey.run();
         switch (what) {
             case 0: return survey.possible;
@@ -216,6 +220,7 @@ public final class ThinReadings {
     }
 
     public int ask() {
+        thinning.refresh();
         survey.run();
         return survey.bestReading();
     }
@@ -239,7 +244,7 @@ public final class ThinReadings {
         }
         images.take(image, log);
         history.wipe();
-        thinning.outdate();
+        outdateAll();
         return log.size;
     }
 
@@ -277,11 +282,16 @@ public final class ThinReadings {
     /** To be called ahead of a change that is not refused: what was can be had back, what was worked out can't stay. */
     private void rememberForUndo() {
         history.push(log);
-        thinning.outdate();
+        outdateAll();
     }
 
+    private void outdateAll() {
+        thinning.outdate();
+        survey.outdate();
+    }
+
+    /** The thinning must be fresh. */
     private boolean isLine(int i, int j) {
-        thinning.refresh();
         return i < j && log.isKnown(i) && log.isKnown(j) && lines.stretchAt(i) == lines.stretchAt(j);
     }
 
@@ -563,24 +573,20 @@ public final class ThinReadings {
             isDelayTold = false;
             for (int items = 0; items <= MOST_LETTERS; items++) {
                 readToken();
-                if (kind == END) {
-                    return items;
+                boolean isItem = false;
+                switch (kind) {
+                    case END: return items;
+                    case 'p': isItem = isPromiseItem(); break;
+                    case 'd': isItem = isDelayItem(); break;
+                    case 'r': isItem = isReadingItem(true); break;
+                    case 'u': isItem = isReadingItem(false); break;
+                    default: break;
                 }
-                if (!isItem()) {
+                if (!isItem) {
                     return FAULT_BASE - place;
                 }
             }
             return FAULT_BASE - place;
-        }
-
-        private boolean isItem() {
-            switch (kind) {
-                case 'p': return isPromiseItem();
-                case 'd': return isDelayItem();
-                case 'r': return isReadingItem(true);
-                case 'u': return isReadingItem(false);
-                default: return false;
-            }
         }
 
         private boolean isPromiseItem() {
@@ -737,17 +743,12 @@ public final class ThinReadings {
                 return;
             }
             for (int j = i + 1; j < MOST_READINGS && log.isKnown(j); j++) {
-                needs[i * MOST_READINGS + j] = measureNeed(i, j);
+                int which = farthest(i, j);
+                int span = span(i, j);
+                boolean hasNeed = which != NONE && span > 0;
+                // Rounded up: a whole PROMISE is enough if and only if it is not below the fraction.
+                needs[i * MOST_READINGS + j] = hasNeed ? (offset(i, which, j) + span - 1) / span : 0;
             }
-        }
-
-        private int measureNeed(int i, int j) {
-            int which = farthest(i, j);
-            int span = span(i, j);
-            if (which == NONE || span < 1) {
-                return 0;
-            }
-            return (offset(i, which, j) + span - 1) / span;
         }
 
         int stretchAt(int k) {
@@ -766,8 +767,11 @@ public final class ThinReadings {
 
         /** By how much k is apart from the LINE of i and j, times span(i, j). */
         int offset(int i, int k, int j) {
-            int rise = (log.valueAt(k) - log.valueAt(i)) * span(i, j);
-            int lineRise = (log.valueAt(j) - log.valueAt(i)) * span(i, k);
+            if (!log.has(i) || !log.has(k) || !log.has(j)) {
+                return 0;
+            }
+            int rise = (log.values[k] - log.values[i]) * (log.times[j] - log.times[i]);
+            int lineRise = (log.values[j] - log.values[i]) * (log.times[k] - log.times[i]);
             return Math.abs(rise - lineRise);
         }
 
@@ -1025,8 +1029,9 @@ public final class ThinReadings {
         private final Log log;
         private final Thinning thinning;
         private final Seen seen;
-        /** By READING: by how many of the possible PROMISES it would be KEPT. */
-        private final int[] tally;
+        /** By PROMISE: those that DOOR would KEEP; kept, as most runs ask several times between changes. */
+        private final int[] doorMasks;
+        private boolean isOutdated;
         private int possible;
         private int least;
         private int greatest;
@@ -1035,48 +1040,67 @@ public final class ThinReadings {
             this.log = log;
             this.thinning = thinning;
             this.seen = seen;
-            tally = new int[MOST_READINGS];
+            doorMasks = new int[MOST_PROMISE + 1];
+            isOutdated = false;
             possible = 0;
             least = NONE;
             greatest = NONE;
         }
 
+        void outdate() {
+            isOutdated = true;
+        }
+
+        /** The thinning must be fresh. */
         void run() {
-            thinning.refresh();
+            swingAllDoors();
             possible = 0;
             least = NONE;
             greatest = NONE;
-            for (int k = 0; k < MOST_READINGS; k++) {
-                tally[k] = 0;
-            }
             for (int promise = 0; promise <= MOST_PROMISE; promise++) {
-                int mask = thinning.swingDoor(promise);
-                if (seen.agreesWith(mask)) {
-                    takeIn(promise, mask);
+                if (!seen.agreesWith(doorMasks[promise])) {
+                    continue;
                 }
+                possible++;
+                least = least == NONE ? promise : least;
+                greatest = promise;
             }
         }
 
-        private void takeIn(int promise, int mask) {
-            possible++;
-            least = least == NONE ? promise : least;
-            greatest = promise;
-            for (int k = 0; k < MOST_READINGS; k++) {
-                tally[k] += bitAt(mask, k);
+        private void swingAllDoors() {
+            if (!isOutdated) {
+                return;
+            }
+            isOutdated = false;
+            for (int promise = 0; promise <= MOST_PROMISE; promise++) {
+                doorMasks[promise] = thinning.swingDoor(promise);
             }
         }
 
+        /** ASK, behind run(). */
         int bestReading() {
             int best = NONE;
             int smallest = possible + 1;
-            for (int k = 0; k < MOST_READINGS && possible > 1; k++) {
-                int greaterPart = Math.max(tally[k], possible - tally[k]);
+            for (int k = 0; k < log.size && possible > 1; k++) {
+                int kept = countKept(k);
+                int greaterPart = Math.max(kept, possible - kept);
                 if (log.isKnown(k) && greaterPart < smallest) {
                     smallest = greaterPart;
                     best = k;
                 }
             }
             return best;
+        }
+
+        /** By how many of the possible PROMISES a READING would be KEPT. */
+        private int countKept(int k) {
+            int kept = 0;
+            for (int promise = 0; promise <= MOST_PROMISE; promise++) {
+                if (seen.agreesWith(doorMasks[promise])) {
+                    kept += bitAt(doorMasks[promise], k);
+                }
+            }
+            return kept;
         }
     }
 }
