@@ -53,6 +53,40 @@ public final class BoundsLinesTest extends Check {
         row(x, 4, 0, 1, 0, 0, 1, 0, 1);
         due(x, x.count(4), 3);
         due(x = Run.of("u0;"), x.count(4), 0);
+        // UNKNOWN ones are not, however far they are behind one that is KEPT.
+        x = Run.of("d1;r0 0;u1;u2;u3;r4 900;u5;u6;");
+        row(x, 4, 1, 0, 0, 0, 1, 0, 0);
+        row(x, 5, 0, NONE, NONE, NONE, 4, NONE, NONE);
+        due(x, x.count(4), 2);
+    }
+
+    /** Each of fourteen is far from the LINE of those beside it. */
+    private static void fourteenCorners() {
+        says("READINGS 0, 1, ..");
+        Run x = new Run();
+        for (int k = 0; k < 14; k++) x.adds(10 * k, k % 2 == 0 ? 0 : 500);
+        for (int k = 0; k < 14; k++) {
+            due(x, x.reading(k, 3), k / 2);
+            due(x, x.reading(k, 4), 1);
+            due(x, x.reading(k, 5), k == 0 ? 0 : k == 13 ? 130 : 10 * k + 10);
+            due(x, x.reading(k, 6), 1);
+        }
+        counts(x, 14, 5, 14, 1, 14, 7, 14, 10);
+        due(x, x.why(11, 13), 12);
+        apart(x, 11, 13, 500, 1, 12);
+        strip(x, 11, 13, 250, 1);
+        told(x, 125, 0, 250, 1);
+        told(x, 130, 1, 500, 1);
+        // The last one alone is far from the LINE of those ahead.
+        x = flat();
+        x.strikes(13);
+        x.adds(130, 500);
+        for (int k = 0; k < 14; k++) {
+            due(x, x.reading(k, 3), k == 13 ? 1 : 0);
+            due(x, x.reading(k, 4), k == 0 || k >= 12 ? 1 : 0);
+            due(x, x.reading(k, 6), k == 0 || k >= 12 ? 1 : 0);
+        }
+        due(x, x.reading(12, 5), 130);
     }
 
     private static void allLinesOnTheWay() {
@@ -287,6 +321,12 @@ public final class BoundsLinesTest extends Check {
             told(x, 75, way, 59, 6);
             told(x, 76, way, 10, 1);
         }
+        // The only one, first of all or last of all.
+        told(Run.of("r5 3;"), 5, 0, 3, 1);
+        told(Run.of("r5 3;u6;"), 5, 1, 3, 1);
+        told(Run.of("u4;r5 3;"), 5, 0, 3, 1);
+        told(Run.of("r5 3;u6;r7 4;"), 5, 1, 3, 1);
+        told(Run.of("r5 3;u6;r7 4;"), 7, 0, 4, 1);
         // One that is not kept is told by the LINE, at its own TIME, too.
         x = Run.of("r0 0;r1 3;r2 0;");
         told(x, 1, 0, 0, 1);
@@ -343,6 +383,7 @@ public final class BoundsLinesTest extends Check {
     public static void main(String[] args) {
         holds();
         firstIsKept();
+        fourteenCorners();
         allLinesOnTheWay();
         delays();
         sentFirst();

@@ -202,6 +202,29 @@ public final class BoundsPromiseTest extends Check {
         due(x, x.reading(13, 1), NONE);
     }
 
+    /** All fourteen are others meanwhile, known ones UNKNOWN and UNKNOWN ones known. */
+    private static void imageOfOthers() {
+        says("All of that becomes as an IMAGE has it");
+        Run x = new Run();
+        for (int k = 0; k < 14; k++) if (k % 3 == 0) x.misses(k); else x.adds(k, 100 + k);
+        x.keep(0);
+        for (int k = 0; k < 14; k++) x.strikes(0);
+        for (int k = 0; k < 14; k++) if (k % 3 == 0) x.adds(500 + k, k); else x.misses(500 + k);
+        x.promises(77);
+        x.delays(7);
+        x.keep(1);
+        for (int round = 0; round < 2; round++) {
+            due(x, x.back(0), 14);
+            counts(x, 14, 5, 14);
+            row(x, 0, 0, 1, 2, 3, 4, 5, 6, 7, 8, 9, 10, 11, 12, 13);
+            row(x, 1, NONE, 101, 102, NONE, 104, 105, NONE, 107, 108, NONE, 110, 111, NONE, 113);
+            due(x, x.back(1), 14);
+            counts(x, 14, 77, 7);
+            row(x, 0, 500, 501, 502, 503, 504, 505, 506, 507, 508, 509, 510, 511, 512, 513);
+            row(x, 1, 0, NONE, NONE, 3, NONE, NONE, 6, NONE, NONE, 9, NONE, NONE, 12, NONE);
+        }
+    }
+
     private static void nothingElseInAnImage() {
         says("nothing else (nothing can be UNDONE behind back())");
         Run x = Run.of("r1 1;r2 90;r3 1;");
@@ -283,6 +306,7 @@ public final class BoundsPromiseTest extends Check {
         askingWhereNothingParts();
         imageNumbers();
         imagesEmptyAndFull();
+        imageOfOthers();
         nothingElseInAnImage();
         imagesOverUndo();
         countsOfAll();

@@ -27,6 +27,14 @@ public final class BoundsReadingsTest extends Check {
         due(x, x.forget(), 0);
         due(x, x.clear(), 0);
         due(x, x.readings(), 0);
+        Run added = new Run();
+        added.adds(0, 0);
+        unseen(added, 100, 0, 99);
+        added.adds(1, 50);
+        added.adds(2, 0);
+        due(added, added.ask(), 1);
+        due(added, added.sees(1, 0), 1);
+        unseen(added, 50, 50, 99);
         Run other = withReadings(3);
         other.type('p');
         other.sees(0, 1);
@@ -312,6 +320,14 @@ public final class BoundsReadingsTest extends Check {
         x.promises(6);
         x.delays(4);
         due(x, x.count(10), 2);
+        // The fourteenth is another one meanwhile.
+        x = withReadings(14);
+        x.strikes(13);
+        x.misses(555);
+        x.undo();
+        due(x, x.undo(), 8);
+        due(x, x.reading(13, 0), 130);
+        due(x, x.reading(13, 1), 13);
         // Of fourteen one goes and comes again.
         x = withReadings(14);
         x.strikes(13);

@@ -28,8 +28,17 @@ public final class BoundsTextTest extends Check {
     private static void faultsAtTheFarEnd() {
         says("the text's length, if it ends too early");
         fault(allButOne() + " ", 120);
+        fault(" " + allButOne(), 120);
+        fault("  " + allButOne().substring(0, 118), 120);
         says("of any other letter, a NUMBER above 9999 or with a 0 ahead of others, that TOKEN's");
         fault(allButOne() + "x", 119);
+        // The last letter is the second of 66, of 06, the only one of a NUMBER that can't stand there.
+        fault(allButOne() + "6", 120);
+        fault(allButOne().substring(0, 118) + "06", 118);
+        fault(allButOne().substring(0, 117) + "p 6", 120);
+        fault(allButOne().substring(0, 117) + "p6 ", 120);
+        fault(allButOne().substring(0, 117) + "  6", 119);
+        fault(allButOne().substring(0, 117) + "p;6", 118);
         says("BAD; FULL.");
         Run x = new Run();
         x.types(allButOne() + " ");
@@ -69,6 +78,26 @@ public final class BoundsTextTest extends Check {
         due(x, x.type(';'), 3);
         due(x, x.readings(), 1);
         counts(x, 0, 7, 14);
+    }
+
+    /** Letters of a longer text that is gone stand behind none of a shorter one. */
+    private static void shorterThanTheOneAhead() {
+        says("THE TEXT is empty");
+        for (String gone : new String[] { "          ", "5555555555", ";;;;;;;;;;", "pppppppppp" }) {
+            for (String text : new String[] { "", "p", "p5", "p5;", "r1", "r1 2", "u3", "u3 " }) {
+                Run x = new Run();
+                x.types(gone);
+                due(x, x.clear(), 10);
+                boolean isWhole = text.isEmpty() || text.equals("p5;");
+                due(x, x.tell(text), isWhole ? text.length() / 3 : -10 - text.length());
+            }
+        }
+        Run x = new Run();
+        due(x, x.tell("p55;d11;"), 2);
+        due(x, x.tell("p5"), -12);
+        due(x, x.type(';'), 3);
+        due(x, x.readings(), 1);
+        counts(x, 0, 5, 14);
     }
 
     private static void blanks() {
@@ -323,6 +352,7 @@ public final class BoundsTextTest extends Check {
         faultsAtTheFarEnd();
         letters();
         clearing();
+        shorterThanTheOneAhead();
         blanks();
         noItems();
         ended();

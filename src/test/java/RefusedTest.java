@@ -1,5 +1,4 @@
-import java.util.LinkedHashMap;
-import java.util.Map;
+import java.util.List;
 import java.util.function.Supplier;
 import java.util.function.ToIntFunction;
 
@@ -51,17 +50,12 @@ public final class RefusedTest extends Check {
         return x;
     }
 
-    private static Map<String, Supplier<Run>> states() {
-        Map<String, Supplier<Run>> states = new LinkedHashMap<>();
-        states.put("empty", RefusedTest::empty);
-        states.put("busy", RefusedTest::busy);
-        states.put("full", RefusedTest::full);
-        states.put("unknowns", RefusedTest::unknowns);
-        return states;
+    private static List<Supplier<Run>> states() {
+        return List.of(RefusedTest::empty, RefusedTest::busy, RefusedTest::full, RefusedTest::unknowns);
     }
 
     private static void everywhere(ToIntFunction<Run> call) {
-        for (Supplier<Run> state : states().values()) refused(state, call, BAD);
+        for (Supplier<Run> state : states()) refused(state, call, BAD);
     }
 
     private static void numbersNotAsTold() {
@@ -132,7 +126,7 @@ public final class RefusedTest extends Check {
 
     private static void behindTheLast() {
         says("there is no such thing");
-        for (Supplier<Run> state : states().values()) {
+        for (Supplier<Run> state : states()) {
             int n = state.get().count(0);
             refused(state, x -> x.strikes(n), BAD);
             refused(state, x -> x.reading(n, 0), BAD);
@@ -176,7 +170,7 @@ public final class RefusedTest extends Check {
 
     private static void questions() {
         says("(As things are NOW; nothing is changed.)");
-        for (Supplier<Run> state : states().values()) {
+        for (Supplier<Run> state : states()) {
             for (int k : new int[] { 0, 1, 5, 13 }) {
                 changesNothing(state, x -> x.reading(k, 4));
                 changesNothing(state, x -> x.reading(k, 6));
