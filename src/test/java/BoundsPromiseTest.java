@@ -146,6 +146,37 @@ public final class BoundsPromiseTest extends Check {
         due(x = Run.of("r7 7;"), x.ask(), 0);
     }
 
+    /** What the document leaves open, too: SEEN stays by its number; what is not there, or is UNKNOWN NOW, is not KEPT. */
+    private static void seenAndGone() {
+        says("STRUCK: one goes (those behind are numbered anew)");
+        Run x = Run.of("r0 0;r1 40;r2 0;");
+        x.sees(2, 0);
+        unseen(x, 0, NONE, NONE);
+        x.strikes(2);
+        unseen(x, 100, 0, 99);
+        x.undo();
+        unseen(x, 0, NONE, NONE);
+        x = Run.of("r0 0;r1 40;r2 0;u3;");
+        x.sees(2, 1);
+        unseen(x, 100, 0, 99);
+        x.strikes(0);
+        due(x, x.reading(2, 1), NONE);
+        unseen(x, 0, NONE, NONE);
+        due(x, x.sees(2, 1), BAD);
+        due(x, x.count(8), 1);
+        x = new Run();
+        x.keep(0);
+        x.adds(0, 0);
+        x.sees(0, 1);
+        unseen(x, 100, 0, 99);
+        due(x, x.ask(), 0);
+        x.back(0);
+        unseen(x, 0, NONE, NONE);
+        due(x, x.ask(), NONE);
+        due(x, x.forget(), 1);
+        unseen(x, 100, 0, 99);
+    }
+
     private static void imageNumbers() {
         says("An IMAGE is kept: READINGS. BAD.");
         Run x = Run.of("r1 1;u2;");
@@ -304,6 +335,7 @@ public final class BoundsPromiseTest extends Check {
         delayAsItIs();
         asking();
         askingWhereNothingParts();
+        seenAndGone();
         imageNumbers();
         imagesEmptyAndFull();
         imageOfOthers();

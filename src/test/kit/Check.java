@@ -149,7 +149,7 @@ class Check {
         return b.append(' ').append(x.ask()).toString();
     }
 
-    private static String lookAtAllThatCanBeUndone(Run x) {
+    static String lookAtAllThatCanBeUndone(Run x) {
         StringBuilder b = new StringBuilder();
         int left = 0;
         while (left >= 0 && x.callsLeft() > 40) {
@@ -163,7 +163,7 @@ class Check {
     }
 
     /** What was SEEN tells itself by what may be at some other PROMISE, DELAY, READINGS. */
-    private static String lookAtSeen(Run x) {
+    static String lookAtSeen(Run x) {
         StringBuilder b = new StringBuilder();
         for (int delay = 1; delay <= 14; delay++) {
             x.delays(delay);
